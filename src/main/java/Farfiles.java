@@ -22,7 +22,6 @@ public final class Farfiles {
   private static final char BEYOND = 0;
   private static final char NUMBER_SIGN = '#';
   private static final char[] NO_SIGNS = {};
-
   private static final int NONE = -1;
 
   /** The numbers of some acts. */
@@ -106,35 +105,6 @@ public final class Farfiles {
     }
   }
 
-  /** All acts, by their numbers. */
-  private static final class Log {
-    private final Act[] row = new Act[MOST_ACTS];
-    // Stands where there is no act, so that nothing is null: it is of no object.
-    private final Act none = new Act(NONE, NONE, BEYOND, 0, NONE, NO_SIGNS);
-    private int count;
-
-    Act at(int number) {
-      if (number < 0 || number >= count || number >= MOST_ACTS) {
-        return none;
-      }
-      Act act = row[number];
-      return act == null ? none : act;
-    }
-
-    boolean hasRoomFor(int more) {
-      return count + more <= MOST_ACTS;
-    }
-
-    int put(Act act) {
-      int number = count;
-      if (number >= 0 && number < MOST_ACTS) {
-        row[number] = act;
-        count++;
-      }
-      return number;
-    }
-  }
-
   /** The one text. */
   private static final class Line {
     private final char[] signs = new char[MOST_SIGNS];
@@ -186,7 +156,7 @@ public final class Farfiles {
     private int count;
     private int looked;
 
-    /** Reads a path till a sign, or the end if that is BEYOND; answers its end, or -1 less the fault. */
+    /** Reads a path till a sign, or BEYOND, the end; answers its place, or -1 less the fault. */
     int readFrom(Line text, int from, char stop) {
       count = 0;
       looked = 0;
@@ -243,7 +213,7 @@ public final class Farfiles {
       return nameOfNumber(number);
     }
 
-    /** Answers -1 less the fault if there is a last name that is not one of letters, otherwise 0. */
+    /** Answers -1 less the fault if there is a last name, not one of letters, otherwise 0. */
     int faultOfLastName() {
       int last = count - 1;
       if (last < 0 || last >= MOST_NAMES || signOfName(names[last], 0) != NUMBER_SIGN) {
@@ -353,22 +323,42 @@ public final class Farfiles {
     }
   }
 
-  /** What is told of objects by the acts of a view, a set of acts. */
-  private static final class Teller {
-    private final Log log;
+  /** All acts, by their numbers, and what is told by those of a view, which is a set of acts. */
+  private static final class Log {
+    private final Act[] row = new Act[MOST_ACTS];
+    // Stands where there is no act, so that nothing is null: it is of no object.
+    private final Act none = new Act(NONE, NONE, BEYOND, 0, NONE, NO_SIGNS);
     private final ActSet told = new ActSet();
     private final ActSet gone = new ActSet();
+    private int count;
 
-    Teller(Log log) {
-      this.log = log;
+    Act at(int number) {
+      if (number < 0 || number >= count || number >= MOST_ACTS) {
+        return none;
+      }
+      Act act = row[number];
+      return act == null ? none : act;
+    }
+
+    boolean hasRoomFor(int more) {
+      return count + more <= MOST_ACTS;
+    }
+
+    int put(Act act) {
+      int number = count;
+      if (number >= 0 && number < MOST_ACTS) {
+        row[number] = act;
+        count++;
+      }
+      return number;
     }
 
     /** Makes told the stores, or the adds, of an object that nothing in the view put out. */
     private void gather(ActSet view, int object) {
       told.empty();
       gone.empty();
-      for (int i = 0; i < log.count; i++) {
-        Act act = log.at(i);
+      for (int i = 0; i < count; i++) {
+        Act act = at(i);
         if (act.object == object && view.has(i)) {
           if (act.kind == CUT) {
             gone.putAll(act.taken);
@@ -385,9 +375,9 @@ public final class Farfiles {
 
     /** The name by which a gathered add is told. */
     private int toldName(Act add) {
-      for (int i = 0; i < log.count; i++) {
+      for (int i = 0; i < count; i++) {
         if (told.has(i)) {
-          Act other = log.at(i);
+          Act other = at(i);
           if (other.name == add.name && other.target < add.target) {
             return nameOfNumber(add.target);
           }
@@ -399,9 +389,9 @@ public final class Farfiles {
     /** The object that is told by a name in a directory, or NONE. */
     int entryOf(ActSet view, int directory, int name) {
       gather(view, directory);
-      for (int i = 0; i < log.count; i++) {
+      for (int i = 0; i < count; i++) {
         if (told.has(i)) {
-          Act add = log.at(i);
+          Act add = at(i);
           if (toldName(add) == name) {
             return add.target;
           }
@@ -418,22 +408,22 @@ public final class Farfiles {
     void tellFile(ActSet view, int file, Answers answers) {
       gather(view, file);
       answers.empty();
-      for (int i = 0; i < log.count; i++) {
+      for (int i = 0; i < count; i++) {
         if (told.has(i)) {
-          answers.putText(log.at(i));
+          answers.putText(at(i));
         }
       }
       if (answers.count == 0) {
-        answers.putText(log.none);
+        answers.putText(none);
       }
     }
 
     void tellDirectory(ActSet view, int directory, Answers answers) {
       gather(view, directory);
       answers.empty();
-      for (int i = 0; i < log.count; i++) {
+      for (int i = 0; i < count; i++) {
         if (told.has(i)) {
-          Act add = log.at(i);
+          Act add = at(i);
           answers.putEntry(toldName(add), add.target);
         }
       }
@@ -442,9 +432,9 @@ public final class Farfiles {
     /** Settles which adds a new cut takes away: all it has seen of the entries told by its name. */
     void takeAway(ActSet view, Act cut) {
       gather(view, cut.object);
-      for (int i = 0; i < log.count; i++) {
+      for (int i = 0; i < count; i++) {
         if (told.has(i)) {
-          Act add = log.at(i);
+          Act add = at(i);
           if (add.target == cut.target && toldName(add) == cut.name) {
             takeAddsLike(add, cut);
           }
@@ -453,8 +443,8 @@ public final class Farfiles {
     }
 
     private void takeAddsLike(Act add, Act cut) {
-      for (int i = 0; i < log.count; i++) {
-        if (cut.seen.has(i) && log.at(i).isAddLike(add)) {
+      for (int i = 0; i < count; i++) {
+        if (cut.seen.has(i) && at(i).isAddLike(add)) {
           cut.taken.put(i);
         }
       }
@@ -464,9 +454,9 @@ public final class Farfiles {
     boolean hasUnseenStore(ActSet view, int file) {
       told.empty();
       gone.empty();
-      for (int i = 0; i < log.count; i++) {
+      for (int i = 0; i < count; i++) {
         if (view.has(i)) {
-          Act act = log.at(i);
+          Act act = at(i);
           if (act.kind == STORE && act.object == file) {
             told.put(i);
           } else if (act.kind == CUT && act.target == file) {
@@ -481,9 +471,9 @@ public final class Farfiles {
     /** Puts on a way those objects that entries in the view of a directory name. */
     void markEntries(ActSet view, int directory, boolean[] onWay) {
       gather(view, directory);
-      for (int i = 0; i < log.count; i++) {
+      for (int i = 0; i < count; i++) {
         if (told.has(i)) {
-          int target = log.at(i).target;
+          int target = at(i).target;
           if (target >= 0 && target < onWay.length) {
             onWay[target] = true;
           }
@@ -607,7 +597,6 @@ public final class Farfiles {
 
   private final Line text = new Line();
   private final Log log = new Log();
-  private final Teller teller = new Teller(log);
   private final Answers told = new Answers();
   private final Client[] clients = new Client[CLIENTS];
   private final ActSet[] servers = new ActSet[SERVERS];
@@ -822,7 +811,7 @@ public final class Farfiles {
     if (!hasDirectory(object)) {
       refuse('d');
     }
-    int next = teller.entryOf(client.known, object, name);
+    int next = log.entryOf(client.known, object, name);
     if (next == NONE) {
       refuse('n');
     }
@@ -862,7 +851,7 @@ public final class Farfiles {
   }
 
   private void refuseIfThere(Client client, int directory, int name) {
-    if (teller.entryOf(client.known, directory, name) != NONE) {
+    if (log.entryOf(client.known, directory, name) != NONE) {
       refuse('e');
     }
   }
@@ -908,7 +897,7 @@ public final class Farfiles {
       }
     }
     if (act.kind == CUT) {
-      teller.takeAway(client.known, act);
+      log.takeAway(client.known, act);
     }
     int number = log.put(act);
     client.known.put(number);
@@ -943,12 +932,8 @@ public final class Farfiles {
     enter(client, new Act(client.number, directory, CUT, name, object, NO_SIGNS));
   }
 
-  private int makeBy(Client client, boolean isOfEntries) {
-    int fault = takePathOfLetters();
-    if (fault < 0) {
-      return fault;
-    }
-    int directory = goToDirectory(client, first);
+  /** Makes an object by the first path's last name in its directory; answers its number. */
+  private int makeIn(Client client, int directory, boolean isOfEntries) {
     refuseIfThere(client, directory, first.lastName());
     int object = CLIENTS * client.made + client.number + 1;
     if (client.made >= MOST_MADE || !isObject(object)) {
@@ -967,12 +952,16 @@ public final class Farfiles {
   }
 
   public int makeFile(int client) throws IndexOutOfBoundsException, UnsupportedOperationException {
-    return makeBy(callerOf(client), false);
+    Client caller = callerOf(client);
+    int fault = takePathOfLetters();
+    return fault < 0 ? fault : makeIn(caller, goToDirectory(caller, first), false);
   }
 
   public int makeDirectory(int client)
       throws IndexOutOfBoundsException, UnsupportedOperationException {
-    return makeBy(callerOf(client), true);
+    Client caller = callerOf(client);
+    int fault = takePathOfLetters();
+    return fault < 0 ? fault : makeIn(caller, goToDirectory(caller, first), true);
   }
 
   public int store(int client) throws IndexOutOfBoundsException, UnsupportedOperationException {
@@ -1002,7 +991,7 @@ public final class Farfiles {
     }
     int directory = goToDirectory(caller, first);
     int object = goOn(caller, first, directory);
-    if (hasDirectory(object) && teller.hasEntries(caller.known, object)) {
+    if (hasDirectory(object) && log.hasEntries(caller.known, object)) {
       refuse('f');
     }
     refuseIfTooFew(1);
@@ -1040,9 +1029,9 @@ public final class Farfiles {
 
   private int tellOf(ActSet view, int object) {
     if (hasDirectory(object)) {
-      teller.tellDirectory(view, object, told);
+      log.tellDirectory(view, object, told);
     } else {
-      teller.tellFile(view, object, told);
+      log.tellFile(view, object, told);
     }
     return told.count;
   }
@@ -1246,7 +1235,7 @@ public final class Farfiles {
       isMore = false;
       for (int i = 0; i < OBJECTS; i++) {
         if (isOnWay[i] && isDirectory[i] && !isGoneBy[i]) {
-          teller.markEntries(server, i, isOnWay);
+          log.markEntries(server, i, isOnWay);
           isGoneBy[i] = true;
           isMore = true;
         }
@@ -1257,8 +1246,8 @@ public final class Farfiles {
   private void markLost(ActSet server, boolean[] marks) {
     markWays(server);
     for (int i = 0; i < OBJECTS && i < marks.length; i++) {
-      marks[i] = isMade[i] && !isOnWay[i] && (isDirectory[i] ? teller.hasEntries(server, i)
-          : teller.hasUnseenStore(server, i));
+      marks[i] = isMade[i] && !isOnWay[i] && (isDirectory[i] ? log.hasEntries(server, i)
+          : log.hasUnseenStore(server, i));
     }
   }
 

@@ -7,7 +7,7 @@ import java.util.Map;
 import java.util.Random;
 import java.util.TreeMap;
 
-/** Long runs of calls, drawn from written seeds, on Farfiles and on the model: all answers alike. */
+/** Runs of calls, drawn from written seeds, on Farfiles and on the model: all answers are alike. */
 public final class ModelRunsTest {
   private static final int RUNS = 400;
   private static final int CALLS = 400;
@@ -166,7 +166,10 @@ public final class ModelRunsTest {
       }
       case 1 -> call("wire", server(), server(), random.nextBoolean());
       case 2, 3 -> call("hear", server(), server());
-      case 4, 5 -> call("bring", client(), random.nextInt(spread) + (random.nextInt(9) == 0 ? 0 : 1));
+      case 4, 5 -> {
+        int least = random.nextInt(9) == 0 ? 0 : 1;
+        call("bring", client(), random.nextInt(spread) + least);
+      }
       case 6 -> call("through", client(), random.nextBoolean());
       case 7 -> call("rank", client(), random.nextInt(random.nextInt(5) == 0 ? 52 : 14) - 1,
           random.nextInt(random.nextInt(5) == 0 ? 12 : 4) - 1);

@@ -854,7 +854,7 @@ public final class PromisesTest {
     }
   }
 
-  /** What goes when there would be more than 8: of the least rank, the one not looked at longest. */
+  /** What goes when there would be more than 8: of the least rank, what was looked at first. */
   private static void whatGoes() {
     Farfiles x = allThrough();
     for (int i = 0; i < 9; i++) {
@@ -1254,6 +1254,104 @@ public final class PromisesTest {
     is(lost(x, 0), "#1:1 #2:2 #6:6 #10:10");
   }
 
+  /** What is on a way, through directories in directories, is not lost; all else that is kept is. */
+  private static void lostByWays() {
+    Farfiles x = allThrough();
+    makeDirectory(x, 0, "d");
+    makeDirectory(x, 0, "d/e");
+    makeDirectory(x, 0, "d/e/f");
+    makeFile(x, 0, "d/e/f/g");
+    store(x, 0, "d/e/f/g", "x");
+    find(x, 1, "d/e/f/g");
+    nearOnly(x, 1);
+    is(lost(x, 0), "");
+    // The way is cut at its start by one, while another one stores at its end.
+    rename(x, 0, "d/e", "h");
+    is(lost(x, 0), "");
+    store(x, 1, "d/e/f/g", "y");
+    remove(x, 0, "h/f/g");
+    remove(x, 0, "h/f");
+    remove(x, 0, "h");
+    is(lost(x, 0), "");
+    x.link(1, 0, true);
+    x.bring(1, 9);
+    is(lost(x, 0), "#13:13");
+    // Another file's cut has not seen the stores of this one.
+    makeFile(x, 0, "a");
+    store(x, 0, "a", "z");
+    remove(x, 0, "a");
+    is(lost(x, 0), "#13:13");
+    is(x.isSound(), true);
+    // A way through a directory of a greater number than what is in it.
+    Farfiles y = allThrough();
+    makeDirectory(y, 3, "x");
+    makeDirectory(y, 0, "x/y");
+    makeFile(y, 0, "x/y/f");
+    store(y, 0, "x/y/f", "x");
+    is(lost(y, 0), "");
+  }
+
+  /** Texts by their codes, however they came; a beginning ahead of what goes on. */
+  private static void textsInOrder() {
+    String[][] rows = {{"a", "b", "c", "d"}, {"d", "c", "b", "a"}, {"b", "d", "a", "c"},
+        {"ab", "a", "", "abc"}, {"", "a", "ab", "abc"}, {"c", "a", "c", "b"}, {"~", " ", "~ ", "A"}};
+    for (String[] row : rows) {
+      Farfiles x = allThrough();
+      makeFile(x, 0, "f");
+      for (int i = 0; i < 4; i++) {
+        find(x, i, "f");
+        nearOnly(x, i);
+      }
+      java.util.TreeSet<String> due = new java.util.TreeSet<>();
+      for (int i = 0; i < 4; i++) {
+        is(store(x, i, "f", row[i]), i + 1);
+        due.add(row[i] + ":-1");
+      }
+      for (int i = 0; i < 4; i++) {
+        x.link(i, 0, true);
+        x.bring(i, 9);
+      }
+      java.util.TreeSet<String> texts = new java.util.TreeSet<>();
+      int many = x.serverTells(0, 1);
+      String before = null;
+      for (int i = 0; i < many; i++) {
+        x.answer(i);
+        String text = text(x);
+        is(before == null || before.compareTo(text) < 0, true);
+        before = text;
+        texts.add(text + ":-1");
+      }
+      is(texts, due);
+    }
+  }
+
+  /** Names that are alike but for one sign, and numbers of two digits. */
+  private static void namesApart() {
+    Farfiles x = allThrough();
+    String[] names = {"abc", "abd", "aac", "bbc", "ab", "aa", "a"};
+    for (int i = 0; i < names.length; i++) {
+      is(makeFile(x, 0, names[i]), 4 * i + 1);
+    }
+    for (int i = 0; i < names.length; i++) {
+      is(find(x, 1, names[i]), 4 * i + 1);
+    }
+    is(list(x, 2, ""), "a:25 aa:21 aac:9 ab:17 abc:1 abd:5 bbc:13");
+    Farfiles y = new Farfiles();
+    for (int i = 0; i < 3; i++) {
+      makeDirectory(y, 3, "" + (char) ('x' + i));
+    }
+    makeDirectory(y, 3, "m");
+    makeDirectory(y, 0, "m");
+    y.bring(3, 9);
+    y.bring(0, 9);
+    is(list(y, 1, ""), "#16:16 m:1 x:4 y:8 z:12");
+    is(makeFile(y, 1, "#16/f"), 2);
+    is(find(y, 1, "#16/f"), 2);
+    refuses(y, 'n', () -> find(y, 1, "#1/f"));
+    refuses(y, 'n', () -> find(y, 1, "#6/f"));
+    refuses(y, 'n', () -> find(y, 1, "#61/f"));
+  }
+
   private static void promise37() {
     Farfiles x = new Farfiles();
     is(x.acts(), 0);
@@ -1420,7 +1518,10 @@ public final class PromisesTest {
     x.hear(0, 1);
     list(x, 3, "");
     nearOnly(x, 3);
-    makeFile(x, 3, "b");
+    for (char i = 'b'; i < 'i'; i++) {
+      makeFile(x, 3, "" + i);
+    }
+    is(x.held(3), 8);
     is(x.isSound(), true);
   }
 
@@ -1479,6 +1580,11 @@ public final class PromisesTest {
     roomOnWay();
     promise = 36;
     lostByNumbers();
+    lostByWays();
+    promise = 16;
+    textsInOrder();
+    promise = 17;
+    namesApart();
     promise = 0;
     thrownChangesNothing();
   }
