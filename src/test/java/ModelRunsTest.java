@@ -25,6 +25,7 @@ public final class ModelRunsTest {
   private final int quick;
   private final int busy;
   private final int sure;
+  private final boolean isHoarding;
   private final String[] names;
 
   private ModelRunsTest(long seed) {
@@ -36,6 +37,7 @@ public final class ModelRunsTest {
     quick = random.nextInt(3);
     busy = random.nextInt(8);
     sure = random.nextInt(10);
+    isHoarding = random.nextInt(3) == 0;
     String[][] sets = {{"a", "b"}, {"a", "b", "c"}, {"a", "b", "c", "d", "ab", "aba", "zz"},
         {"a", "b", "c", "d", "e", "f", "g", "h", "i", "j", "k", "l", "m", "n", "o"}};
     names = sets[random.nextInt(sets.length)];
@@ -156,7 +158,11 @@ public final class ModelRunsTest {
   }
 
   private void change() throws Exception {
-    switch (random.nextInt(9)) {
+    int kind = random.nextInt(9);
+    if (isHoarding && kind >= 4 && kind <= 6 && random.nextInt(4) > 0) {
+      return;
+    }
+    switch (kind) {
       case 0 -> {
         int client = client();
         boolean isUp = random.nextInt(12) > farness;
@@ -247,11 +253,28 @@ public final class ModelRunsTest {
     }
   }
 
+  /** Makes files and stores in them, all outgoing, till little else can be held. */
+  private void hoard() throws Exception {
+    int client = random.nextInt(4);
+    call("erase");
+    call("through", client, false);
+    for (char i = 'q'; i < 'z' && model.held(client) < 8; i++) {
+      type("" + i);
+      call("makeFile", client);
+      type(i + "=x");
+      call("store", client);
+    }
+  }
+
   private void run() throws Exception {
+    int hoardAt = isHoarding ? random.nextInt(CALLS / 2) : -1;
     int spendAt = random.nextInt(12) == 0 ? random.nextInt(CALLS) : -1;
     for (int i = 0; i < CALLS; i++) {
       if (i == spendAt) {
         spendActs();
+      }
+      if (i == hoardAt) {
+        hoard();
       }
       int kind = random.nextInt(12);
       if (kind < 6 + quick) {
@@ -292,7 +315,7 @@ public final class ModelRunsTest {
     for (String call : new String[] {"makeFile", "makeDirectory", "store", "remove", "rename"}) {
       String letters = switch (call) {
         case "store" -> "rdnhokl";
-        case "remove" -> "rdnhfl";
+        case "remove" -> "rdnhofl";
         case "rename" -> "rdnhoecl";
         default -> "rdnhoel";
       };
