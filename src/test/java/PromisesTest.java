@@ -1,177 +1,5 @@
-import java.util.NoSuchElementException;
-
 /** For each promise of the document: ordinary inputs, the edges it names, and wrong inputs. */
-public final class PromisesTest {
-  private static final Class<?> RANGE = IndexOutOfBoundsException.class;
-  private static final Class<?> WRONG = IllegalArgumentException.class;
-  private static final Class<?> STATE = IllegalStateException.class;
-  private static final Class<?> MISSING = NoSuchElementException.class;
-  private static final Class<?> REFUSED = UnsupportedOperationException.class;
-  private static final int[] NO_CLIENTS = {-1, 4, Integer.MIN_VALUE, Integer.MAX_VALUE};
-  private static final int[] NO_SERVERS = {-1, 3, Integer.MIN_VALUE, Integer.MAX_VALUE};
-
-  private static int passed = 0;
-  private static int failed = 0;
-  private static int promise = 0;
-
-  private interface Call {
-    Object make();
-  }
-
-  // Ways to ask.
-
-  private static void is(Object got, Object due) {
-    if (got.equals(due)) {
-      passed++;
-    } else {
-      failed++;
-      StackTraceElement[] trace = new Throwable().getStackTrace();
-      StringBuilder lines = new StringBuilder();
-      for (int i = 1; i < trace.length; i++) {
-        lines.append(i == 1 ? "" : " < ").append(trace[i].getLineNumber());
-      }
-      System.out.println("promise " + promise + ", line " + lines + ": " + got + ", due is " + due);
-    }
-  }
-
-  private static void fails(Class<?> due, Call call) {
-    Object got;
-    try {
-      got = "nothing, " + call.make();
-    } catch (RuntimeException e) {
-      got = e.getClass();
-    }
-    is(got, due);
-  }
-
-  /** A refusal, with its letter. */
-  private static void refuses(Farfiles x, char letter, Call call) {
-    fails(REFUSED, call);
-    is(x.reason(), letter);
-    is(x.length(), 0);
-  }
-
-  private static Farfiles say(Farfiles x, String text) {
-    x.erase();
-    for (int i = 0; i < text.length(); i++) {
-      x.type(text.charAt(i));
-    }
-    return x;
-  }
-
-  private static int makeFile(Farfiles x, int client, String path) {
-    return say(x, path).makeFile(client);
-  }
-
-  private static int makeDirectory(Farfiles x, int client, String path) {
-    return say(x, path).makeDirectory(client);
-  }
-
-  private static int store(Farfiles x, int client, String path, String text) {
-    return say(x, path + "=" + text).store(client);
-  }
-
-  private static int remove(Farfiles x, int client, String path) {
-    return say(x, path).remove(client);
-  }
-
-  private static int rename(Farfiles x, int client, String path, String other) {
-    return say(x, path + " " + other).rename(client);
-  }
-
-  private static int find(Farfiles x, int client, String path) {
-    return say(x, path).find(client);
-  }
-
-  private static String text(Farfiles x) {
-    StringBuilder text = new StringBuilder();
-    for (int i = 0; i < x.length(); i++) {
-      text.append(x.signAt(i));
-    }
-    return text.toString();
-  }
-
-  private static String told(Farfiles x, int many) {
-    is(x.answers(), many);
-    StringBuilder told = new StringBuilder();
-    for (int i = 0; i < many; i++) {
-      is(x.answer(i), x.length());
-      told.append(i == 0 ? "" : " ").append(text(x)).append(':').append(x.answerObject(i));
-    }
-    x.erase();
-    return told.toString();
-  }
-
-  private static String list(Farfiles x, int client, String path) {
-    return told(x, say(x, path).list(client));
-  }
-
-  private static String read(Farfiles x, int client, String path) {
-    return told(x, say(x, path).read(client));
-  }
-
-  private static String serverTells(Farfiles x, int server, int object) {
-    return told(x, x.serverTells(server, object));
-  }
-
-  private static String lost(Farfiles x, int server) {
-    return told(x, x.lost(server));
-  }
-
-  private static void nearOnly(Farfiles x, int client, int... servers) {
-    for (int i = 0; i < 3; i++) {
-      x.link(client, i, false);
-    }
-    for (int server : servers) {
-      x.link(client, server, true);
-    }
-  }
-
-  private static Farfiles allThrough() {
-    Farfiles x = new Farfiles();
-    for (int i = 0; i < 4; i++) {
-      x.through(i, true);
-    }
-    return x;
-  }
-
-  private static String seen(Farfiles x, int act) {
-    StringBuilder seen = new StringBuilder();
-    for (int i = 0; i < x.acts(); i++) {
-      if (x.hasSeen(act, i)) {
-        seen.append(' ').append(i);
-      }
-    }
-    return seen.toString();
-  }
-
-  private static String held(Farfiles x, int client) {
-    StringBuilder held = new StringBuilder();
-    for (int i = -3; i < 60; i++) {
-      if (x.holds(client, i)) {
-        held.append(' ').append(i);
-      }
-    }
-    return held.toString();
-  }
-
-  /** Leaves a client with some acts left, all brought. */
-  private static Farfiles withActsLeft(int left) {
-    Farfiles x = allThrough();
-    makeFile(x, 0, "a");
-    makeDirectory(x, 0, "d");
-    makeFile(x, 0, "p");
-    String[] ways = {"p q", "q p"};
-    for (int i = 0; x.acts() + 2 <= 250 - left; i++) {
-      say(x, ways[i % 2]).rename(0);
-    }
-    if (x.acts() < 250 - left) {
-      makeFile(x, 1, "z");
-    }
-    is(x.acts(), 250 - left);
-    return x;
-  }
-
+public final class PromisesTest extends Asking {
   // The promises.
 
   private static void promise1() {
@@ -386,9 +214,7 @@ public final class PromisesTest {
     for (int i = 0; i < 7; i++) {
       makeFile(x, 1, "" + (char) ('a' + i));
     }
-    for (int i = 0; x.acts() < 249; i++) {
-      rename(x, 0, i % 2 == 0 ? "a" : "z", i % 2 == 0 ? "z" : "a");
-    }
+    toAndFro(x, 0, 'a', 'z', 121);
     store(x, 0, "b", "x");
     is(x.acts(), 250);
     fails(REFUSED, () -> makeFile(x, 1, "y"));
@@ -1566,34 +1392,25 @@ public final class PromisesTest {
         PromisesTest::promise37, PromisesTest::promise38, PromisesTest::promise39,
         PromisesTest::promise40, PromisesTest::promise41, PromisesTest::promise42,
         PromisesTest::promise43, PromisesTest::promise44, PromisesTest::promise45};
-    for (Runnable row : rows) {
-      promise++;
-      row.run();
+    for (int i = 0; i < rows.length; i++) {
+      about = "promise " + (i + 1);
+      rows[i].run();
     }
-    promise = 10;
+    about = "more of promises";
     roomForMaking();
-    promise = 13;
     cutsBySeen();
     cutsByNumber();
-    promise = 24;
     whatGoes();
     roomOnWay();
-    promise = 36;
     lostByNumbers();
     lostByWays();
-    promise = 16;
     textsInOrder();
-    promise = 17;
     namesApart();
-    promise = 0;
     thrownChangesNothing();
   }
 
   public static void main(String[] args) {
     all();
-    System.out.println("PromisesTest: " + passed + " passed, " + failed + " failed");
-    if (failed > 0) {
-      System.exit(1);
-    }
+    end(PromisesTest.class);
   }
 }
