@@ -144,11 +144,14 @@ abstract class Asking {
 
   static String held(Farfiles x, int client) {
     StringBuilder held = new StringBuilder();
-    for (int i = -3; i < 60; i++) {
+    int left = x.held(client);
+    for (int i = 0; i <= 48 && left > 0; i++) {
       if (x.holds(client, i)) {
         held.append(' ').append(i);
+        left--;
       }
     }
+    is(left, 0);
     return held.toString();
   }
 

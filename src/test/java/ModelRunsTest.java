@@ -10,6 +10,7 @@ import java.util.TreeMap;
 /** Runs of calls, drawn from written seeds, on Farfiles and on the model: all answers are alike. */
 public final class ModelRunsTest {
   private static final int RUNS = 400;
+  // More calls than the document promises answers for: a run comes to more states so.
   private static final int CALLS = 400;
   private static final Map<String, Method[]> METHODS = new HashMap<>();
   private static final Map<String, Integer> REACHED = new TreeMap<>();

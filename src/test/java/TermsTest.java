@@ -160,6 +160,20 @@ public final class TermsTest extends Asking {
     // 2 has seen both: nothing stays.
     remove(y, 2, "q");
     is(serverTells(y, 0, 0), "");
+    // Of an entry it has seen all adds, also one that another cut took away, which server 1 has not
+    // heard of.
+    Farfiles w = allThrough();
+    makeFile(w, 0, "p");
+    nearOnly(w, 0, 0);
+    rename(w, 0, "p", "q");
+    rename(w, 0, "q", "p");
+    nearOnly(w, 0, 1);
+    is(serverTells(w, 1, 0), "p:1");
+    remove(w, 0, "p");
+    is(serverTells(w, 1, 0), "");
+    is(serverTells(w, 0, 0), "p:1");
+    is(w.hear(0, 1), 5);
+    is(serverTells(w, 0, 0), "");
     // An entry of the same name and another object stays.
     Farfiles z = new Farfiles();
     makeFile(z, 0, "m");
@@ -577,6 +591,18 @@ public final class TermsTest extends Asking {
     is(find(z, 1, "f"), 1);
     z.drop(1, 1);
     refuses(z, 'h', () -> find(z, 1, "f"));
+    // Being near none is told, not that none can go.
+    Farfiles u = new Farfiles();
+    u.through(1, true);
+    makeFile(u, 1, "z");
+    for (int i = 0; i < 7; i++) {
+      makeFile(u, 0, letter(i));
+      store(u, 0, letter(i), "x");
+    }
+    refuses(u, 'o', () -> find(u, 0, "z"));
+    nearOnly(u, 0);
+    refuses(u, 'h', () -> find(u, 0, "z"));
+    refuses(u, 'o', () -> makeFile(u, 0, "y"));
   }
 
   /** Client 1 holds the root and the files a to g, looked at in this row; h to l are there too. */
@@ -697,6 +723,13 @@ public final class TermsTest extends Asking {
     find(x, 1, "g");
     find(x, 1, "k");
     is(held(x, 1), " 0 9 17 25 29 33 37 41");
+    // Also what is looked at while near none.
+    Farfiles z = full();
+    nearOnly(z, 1);
+    find(z, 1, "a");
+    z.link(1, 1, true);
+    find(z, 1, "h");
+    is(held(z, 1), " 0 1 9 13 17 21 25 29");
     // Of one call, the way's first ones were looked at first.
     Farfiles y = allThrough();
     makeDirectory(y, 0, "x");
@@ -770,6 +803,20 @@ public final class TermsTest extends Asking {
     is(x.walk(1), 8);
     is(x.reason(), 'o');
     is(held(x, 1), " 1 5 9 13 17 21 25 29");
+    // It looks at no more then, also if it holds that.
+    Farfiles y = new Farfiles();
+    y.through(1, true);
+    makeFile(y, 1, "z");
+    for (int i = 0; i < 7; i++) {
+      makeFile(y, 0, letter(i));
+      store(y, 0, letter(i), "x");
+    }
+    y.rank(0, 5, 9);
+    y.rank(0, 2, 8);
+    y.rank(0, 1, 7);
+    is(y.walk(0), 1);
+    is(y.reason(), 'o');
+    is(held(y, 0), " 0 1 5 9 13 17 21 25");
   }
 
   private static void looksStay() {
@@ -1513,6 +1560,16 @@ public final class TermsTest extends Asking {
     is(lost(z, 0), "#1:1 #9:9 #13:13");
     land(z, 2);
     is(lost(z, 0), "#9:9 #13:13");
+    // A cut of a later number that has not seen the store.
+    Farfiles t = allThrough();
+    makeFile(t, 0, "g");
+    find(t, 1, "g");
+    nearOnly(t, 1);
+    store(t, 1, "g", "x");
+    remove(t, 0, "g");
+    is(lost(t, 0), "");
+    land(t, 1);
+    is(lost(t, 0), "#1:1");
     Farfiles u = allThrough();
     makeFile(u, 0, "g");
     find(u, 1, "g");
