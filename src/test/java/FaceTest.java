@@ -16,6 +16,7 @@ import java.util.regex.Pattern;
 /** The face of the class, and those rules of the language that its words and its members show. */
 public final class FaceTest {
   private static final String SOURCE = "src/main/java/Farfiles.java";
+  private static final String DOCUMENT = "../shared/DOC.md";
   private static final String FACE = """
       public Farfiles();
       public int type(char sign) throws IllegalArgumentException, IllegalStateException;
@@ -82,6 +83,19 @@ public final class FaceTest {
       names.add(type.getSimpleName());
     }
     return String.join(",", names);
+  }
+
+  /** That the rows above are those of the document, in its order. */
+  private static void theDocument() throws IOException {
+    String text = Files.readString(Path.of(DOCUMENT));
+    String face = text.split("## The public face")[1].split("```")[1];
+    List<String> rows = new ArrayList<>();
+    for (String line : face.split("\n")) {
+      if (line.startsWith("    public ")) {
+        rows.add(line.trim());
+      }
+    }
+    check(rows.equals(List.of(FACE.split("\n"))), "the face is that of the document: " + rows);
   }
 
   private static Set<String> due() {
@@ -201,6 +215,7 @@ public final class FaceTest {
   }
 
   public static void main(String[] args) throws IOException {
+    theDocument();
     theFace();
     theMembers();
     String source = Files.readString(Path.of(SOURCE));
